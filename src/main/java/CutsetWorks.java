@@ -137,7 +137,7 @@ public final class CutsetWorks {
         if (set < 0 || set >= 1 << found.corners || !hasOneOf(set, source, sink)) {
             throw new IllegalArgumentException("the set is no cut");
         }
-        return found.sumOfCut(set);
+        return scan.sumOfCut(found, set);
     }
 
     public int cuts(int net, int source, int sink)
@@ -301,7 +301,7 @@ public final class CutsetWorks {
         if (corner == 0) {
             throw new NoSuchElementException("the corner 0 has no parent");
         }
-        tree.measure(found);
+        tree.measure(found, scan);
         tree.grow();
         return tree.parents[corner];
     }
@@ -309,7 +309,7 @@ public final class CutsetWorks {
     public int between(int net, int one, int other) throws IndexOutOfBoundsException, IllegalArgumentException {
         Net found = netAt(net);
         needEnds(found, one, other);
-        tree.measure(found);
+        tree.measure(found, scan);
         return tree.leastCut(one, other);
     }
 
@@ -519,12 +519,12 @@ public final class CutsetWorks {
         streams.lay(net, 0, sink);
         if (!streams.fill()) {
             int set = scan.leastCrowd(net, 0, sink);
-            return set != NONE && net.isCrowd(set);
+            return set != NONE && hasBit(set, 0) == hasBit(set, sink) && scan.isCrowd(net, set);
         }
         int amount = streams.amount;
         streams.tellLeastRow(net.edges);
         scan.findLeast(net, 0, sink);
-        if (!streams.fills(net, scan.near, amount) || !streams.fills(net, scan.far, amount)) {
+        if (!isCutSound(net, scan.near, amount) || !isCutSound(net, scan.far, amount)) {
             return false;
         }
         streams.lay(net, 0, sink);
@@ -537,6 +537,10 @@ public final class CutsetWorks {
         return streams.arePricesRight(net) && areRoundsSound(net, sink, amount);
     }
 
+    private boolean isCutSound(Net net, int set, int amount) {
+        return scan.sumOfCut(net, set) == amount && streams.fills(net, set);
+    }
+
     private boolean areRoundsSound(Net net, int sink, int amount) {
         if (net.hasLeast()) {
             return true;
@@ -546,7 +550,7 @@ public final class CutsetWorks {
     }
 
     private boolean isTreeSound(Net net) {
-        tree.measure(net);
+        tree.measure(net, scan);
         tree.grow();
         for (int one = 0; one < net.corners; one++) {
             for (int other = one + 1; other < net.corners; other++) {
@@ -729,40 +733,6 @@ public final class CutsetWorks {
             return false;
         }
 
-        int mostFrom(int set) {
-            int sum = 0;
-            for (int edge = 0; edge < edges; edge++) {
-                sum += hasOneOf(set, from[edge], to[edge]) ? most[edge] : 0;
-            }
-            return sum;
-        }
-
-        int leastFrom(int set) {
-            int sum = 0;
-            for (int edge = 0; edge < edges; edge++) {
-                sum += hasOneOf(set, from[edge], to[edge]) ? least[edge] : 0;
-            }
-            return sum;
-        }
-
-        // what leads into a set leads from all that is not in it: hence ~set here and below
-        int sumOfCut(int set) {
-            return mostFrom(set) - leastFrom(~set);
-        }
-
-        boolean isCrowd(int set) {
-            int sum = leastFrom(set);
-            return sum > 0 && sum > mostFrom(~set);
-        }
-
-        boolean isBroken(int set) {
-            int sum = 0;
-            for (int corner = 0; corner < corners; corner++) {
-                sum += hasBit(set, corner) ? supply[corner] : 0;
-            }
-            return sum > sumOfCut(set) || sum < -sumOfCut(~set);
-        }
-
         /** The set of corners to which ways lead from one, through no corner of the set that is closed. */
         int reachFrom(int start, int closed) {
             int reached = 1 << start;
@@ -934,7 +904,7 @@ public final class CutsetWorks {
             if (limit <= 0 || source == sink || !isNode(source) || !isNode(sink)) {
                 return 0;
             }
-            measure(source, sink);
+            setDistances(source, sink);
             wayLength = 0;
             if (level[source] == FAR) {
                 return 0;
@@ -952,8 +922,8 @@ public final class CutsetWorks {
             return shift(limit);
         }
 
-        /** Tells for nodes how many edges lead on to the sink, as far as the source is away from it. */
-        private void measure(int source, int sink) {
+        /** Tells of nodes how many edges lead on from them to the sink, up to those as far away as the source. */
+        private void setDistances(int source, int sink) {
             for (int node = 0; node < nodes; node++) {
                 level[node] = FAR;
             }
@@ -1273,7 +1243,7 @@ public final class CutsetWorks {
             return -flows.sumOfCosts(net.edges + 1);
         }
 
-        boolean fills(Net net, int set, int greatest) {
+        boolean fills(Net net, int set) {
             for (int edge = 0; edge < net.edges; edge++) {
                 boolean leadsOut = hasOneOf(set, net.from[edge], net.to[edge]);
                 boolean leadsIn = hasOneOf(set, net.to[edge], net.from[edge]);
@@ -1281,7 +1251,7 @@ public final class CutsetWorks {
                     return false;
                 }
             }
-            return net.sumOfCut(set) == greatest;
+            return true;
         }
 
         boolean arePricesRight(Net net) {
@@ -1302,9 +1272,56 @@ public final class CutsetWorks {
 
     /** Looks at all sets of corners of a net, of which there are 256 at most. */
     private static final class Cuts {
+        private int mostOut;
+        private int leastOut;
+        private int mostIn;
+        private int leastIn;
         private int near;
         private int far;
         private int many;
+
+        /** Adds up the bounds of the edges that lead from a set, and of those that lead into it. */
+        private void weigh(Net net, int set) {
+            mostOut = 0;
+            leastOut = 0;
+            mostIn = 0;
+            leastIn = 0;
+            for (int edge = 0; edge < net.edges; edge++) {
+                int begins = set >> net.from[edge] & 1;
+                int ends = set >> net.to[edge] & 1;
+                if (begins > ends) {
+                    mostOut += net.most[edge];
+                    leastOut += net.least[edge];
+                } else if (begins < ends) {
+                    mostIn += net.most[edge];
+                    leastIn += net.least[edge];
+                }
+            }
+        }
+
+        int sumOfCut(Net net, int set) {
+            weigh(net, set);
+            return mostOut - leastIn;
+        }
+
+        int sumBothWays(Net net, int set) {
+            weigh(net, set);
+            return mostOut + mostIn;
+        }
+
+        boolean isCrowd(Net net, int set) {
+            weigh(net, set);
+            return leastOut > mostIn;
+        }
+
+        boolean isBroken(Net net, int set) {
+            int sum = 0;
+            for (int corner = 0; corner < net.corners; corner++) {
+                sum += hasBit(set, corner) ? net.supply[corner] : 0;
+            }
+            weigh(net, set);
+            return sum > mostOut - leastIn || sum < leastOut - mostIn;
+        }
 
         void findLeast(Net net, int source, int sink) {
             int least = 0;
@@ -1313,7 +1330,7 @@ public final class CutsetWorks {
             many = 0;
             for (int set = 0; set < 1 << net.corners; set++) {
                 if (hasOneOf(set, source, sink)) {
-                    int sum = net.sumOfCut(set);
+                    int sum = sumOfCut(net, set);
                     if (many == 0 || sum < least) {
                         least = sum;
                         near = set;
@@ -1330,7 +1347,7 @@ public final class CutsetWorks {
 
         int leastCrowd(Net net, int source, int sink) {
             for (int set = 1; set < 1 << net.corners; set++) {
-                if (hasBit(set, source) == hasBit(set, sink) && net.isCrowd(set)) {
+                if (hasBit(set, source) == hasBit(set, sink) && isCrowd(net, set)) {
                     return set;
                 }
             }
@@ -1339,7 +1356,7 @@ public final class CutsetWorks {
 
         int leastBreaker(Net net) {
             for (int set = 1; set < 1 << net.corners; set++) {
-                if (net.isBroken(set)) {
+                if (isBroken(net, set)) {
                     return set;
                 }
             }
@@ -1374,11 +1391,12 @@ public final class CutsetWorks {
             weights = new int[MOST_CORNERS];
         }
 
-        void measure(Net net) {
+        /** A set and all the other corners have the same sum. */
+        void measure(Net net, Cuts scan) {
             corners = net.corners;
             int all = (1 << corners) - 1;
             for (int set = 0; set <= all - set; set++) {
-                sums[set] = net.mostFrom(set) + net.mostFrom(~set);
+                sums[set] = scan.sumBothWays(net, set);
                 sums[all - set] = sums[set];
             }
         }
