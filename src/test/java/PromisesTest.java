@@ -853,6 +853,10 @@ public final class PromisesTest {
         due(y.best(), 0);
         due(y.chosen(false), 0);
         due(y.chosen(true), 4);
+        y.toolCost(2, 0);
+        due(y.chosen(false), 4);
+        y.toolCost(1, 0);
+        due(y.chosen(true), 7);
     }
 
     private static void sums() {
