@@ -415,6 +415,15 @@ public final class PromisesTest {
             }
         }
         fails(NONE, () -> back.roundSign(0, 0, 3, 1, 5));
+        // two edges can be gone along backward: the one with the less number is told
+        CutsetWorks both = with(6, e(0, 1, 0, 2, 0), e(1, 2, 0, 1, 0), e(1, 2, 0, 1, 0), e(2, 3, 0, 2, 0),
+                e(0, 4, 0, 1, 0), e(4, 2, 0, 1, 0), e(1, 5, 0, 1, 0), e(5, 3, 0, 1, 0));
+        int[][] bothSigns = {{0, 1, 3}, {0, 2, 3}, {4, 5, 17, 6, 7}};
+        for (int round = 0; round < 3; round++) {
+            for (int index = 0; index < bothSigns[round].length; index++) {
+                due(both.roundSign(0, 0, 3, round, index), bothSigns[round][index]);
+            }
+        }
         fails(UNSUPPORTED, () -> y.roundSign(0, 0, 2, -1, -1));
     }
 
