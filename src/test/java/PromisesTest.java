@@ -415,6 +415,13 @@ public final class PromisesTest {
             }
         }
         fails(NONE, () -> back.roundSign(0, 0, 3, 1, 5));
+        // the edge 0 backward is 16
+        CutsetWorks first = with(6, e(1, 2, 0, 1, 0), e(0, 1, 0, 1, 0), e(2, 3, 0, 1, 0), e(0, 4, 0, 1, 0),
+                e(4, 2, 0, 1, 0), e(1, 5, 0, 1, 0), e(5, 3, 0, 1, 0));
+        int[] firstSigns = {3, 4, 16, 5, 6};
+        for (int index = 0; index < 5; index++) {
+            due(first.roundSign(0, 0, 3, 1, index), firstSigns[index]);
+        }
         // two edges can be gone along backward: the one with the less number is told
         CutsetWorks both = with(6, e(0, 1, 0, 2, 0), e(1, 2, 0, 1, 0), e(1, 2, 0, 1, 0), e(2, 3, 0, 2, 0),
                 e(0, 4, 0, 1, 0), e(4, 2, 0, 1, 0), e(1, 5, 0, 1, 0), e(5, 3, 0, 1, 0));
