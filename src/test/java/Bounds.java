@@ -182,10 +182,6 @@ abstract class Bounds {
         }
     }
 
-    static void dueAll(Object[] got, Object... want) {
-        due(List.of(got), List.of(want));
-    }
-
     static Object answer(CutsetWorks x, Asking call) {
         try {
             return call.of(x);
@@ -217,6 +213,11 @@ abstract class Bounds {
 
     /** Answers from which all that an object holds can be told; some of the calls change it. */
     static String everything(CutsetWorks x) {
+        return everyAnswer(x).toString();
+    }
+
+    /** From 0 on those of nets, from 12 on those of pairs and projects, from 33 of teams, from 61 of the table. */
+    static List<Object> everyAnswer(CutsetWorks x) {
         List<Object> all = new ArrayList<>();
         for (int net = 0; net < 4; net++) {
             int n = net;
@@ -233,7 +234,7 @@ abstract class Bounds {
         }
         all.add(answer(x, CutsetWorks::isSound));
         all.add(answer(x, w -> w.net(2)));
-        return all.toString();
+        return all;
     }
 
     private static void pairsAndProjects(CutsetWorks x, List<Object> all) {

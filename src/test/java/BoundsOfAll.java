@@ -13,6 +13,7 @@ final class BoundsOfAll extends Calls {
         whatIsSound();
         nothingChanges();
         toldAnew();
+        onlyWhatIsTold();
         inAnyOrder();
         lastCall();
     }
@@ -33,6 +34,7 @@ final class BoundsOfAll extends Calls {
         }
         // by the flow that is told, not by another greatest one, nor by a cheapest one
         asks(with(3, e(0, 1, 0, 5, -9), e(0, 1, 0, 5, 9), e(1, 2, 7)), 2f / 3f, x -> x.fullShare(0, 0, 2));
+        asks(with(3, e(0, 1, 0, 2, -9), e(0, 1, 0, 9, 9), e(1, 2, 5)), 1f / 3f, x -> x.fullShare(0, 0, 2));
         asks(with(3, e(0, 1, 0, 4, -9), e(0, 1, 0, 4, -9), e(0, 1, 0, 5, 9), e(1, 2, 5)), 1f / 2f,
                 x -> x.fullShare(0, 0, 2));
         throwing(49, NONE);
@@ -86,7 +88,15 @@ final class BoundsOfAll extends Calls {
             () -> with(8), () -> many(16, e(0, 1, 99, 99, 20)), () -> many(16, e(1, 0, 99, 99, -20)),
             () -> many(16, e(0, 1, 0, 99, -20)), () -> many(16, e(0, 1, 0)), () -> many(1, e(0, 1, 1)),
             () -> with(3, e(0, 1, 0, 5, 0), e(1, 2, 0, 5, -1), e(2, 1, 0, 3, -1)),
-            () -> with(3, e(0, 1, 3, 3, 0), e(1, 2, 2))};
+            () -> with(3, e(0, 1, 3, 3, 0), e(1, 2, 2)),
+            // prices that two ways bind, or one, or that bind backward
+            () -> with(4, e(0, 1, 0, 9, 6), e(0, 2, 0, 9, 2), e(2, 1, 0, 9, 3), e(1, 3, 4)),
+            () -> with(5, e(3, 2, 0, 1, 2), e(2, 1, 0, 1, 3), e(0, 1, 0, 9, 4), e(0, 3, 1, 1, 5), e(1, 4, 3)),
+            () -> with(4, e(0, 1, 0, 9, -6), e(0, 2, 0, 9, -2), e(2, 1, 0, 9, -3), e(1, 2, 0, 2, 3), e(1, 3, 4)),
+            // trees that are no stars
+            () -> with(8, e(1, 0, 9), e(2, 1, 8), e(3, 2, 7), e(4, 3, 6), e(5, 4, 5), e(6, 5, 4), e(7, 6, 3)),
+            () -> with(6, e(0, 5, 3), e(5, 3, 4), e(3, 1, 2), e(1, 4, 7), e(4, 2, 1), e(2, 5, 6), e(4, 0, 2)),
+            BoundsOfAll::tabled};
         for (Making making : makings) {
             CutsetWorks x = making.make();
             asks(x, true, CutsetWorks::isSound);
@@ -102,12 +112,27 @@ final class BoundsOfAll extends Calls {
         asks(x, true, CutsetWorks::isSound);
     }
 
+    /** A cover with left ones, one left one that is not paired, and a table whose sums are not whole. */
+    private static CutsetWorks tabled() {
+        CutsetWorks x = new CutsetWorks();
+        x.likes(0, 7);
+        x.likes(1, 56);
+        x.likes(2, 64);
+        x.likes(3, 64);
+        x.table(3, 4);
+        for (int place = 0; place < 12; place++) {
+            x.tell(place / 4, place % 4, 37 * place % 50 + 15);
+        }
+        return x;
+    }
+
     /** What isSound() looks at, asked of the face itself: each row is a net with its edges. */
     private static void whatIsSound() {
         int[][][] nets = {{}, {e(0, 1, 99)}, {e(1, 0, 5, 9, -3)},
             {e(0, 1, 0, 3, 1), e(0, 2, 0, 2, 4), e(1, 2, 0, 2, 0), e(1, 3, 0, 2, 5), e(2, 3, 0, 4, 1)},
             {e(0, 1, 1, 9, -5), e(1, 2, 0, 7, 20), e(2, 1, 2, 4, -20), e(1, 3, 0, 6, 2), e(3, 0, 0, 3, 1)},
             {e(0, 1, 0, 9, -5), e(1, 2, 0, 7, 20), e(2, 1, 0, 4, -20), e(1, 3, 0, 6, 2), e(3, 1, 0, 3, 1)},
+            {e(0, 1, 0, 9, 6), e(0, 2, 0, 3, 2), e(2, 1, 0, 9, 3), e(1, 3, 0, 4, 0)},
             {e(1, 2, 4, 9, 0), e(0, 1, 0, 3, 0)}, {e(1, 2, 3, 9, 0), e(0, 1, 0, 3, 0), e(2, 3, 9)}};
         for (int[][] edges : nets) {
             for (int corners : new int[] {4, 8}) {
@@ -164,7 +189,8 @@ final class BoundsOfAll extends Calls {
     }
 
     private static void pricesShow(int corners, int[][] edges) {
-        sentence("Terms", "one is cheapest just if no ring of what is left costs less than nothing, which prices show");
+        sentence("Terms", "one is cheapest just if no ring of what is left costs less than nothing, which prices "
+                + "show");
         CutsetWorks x = with(corners, edges);
         int sink = corners - 1;
         int cost = 0;
@@ -274,14 +300,68 @@ final class BoundsOfAll extends Calls {
         answer(x, w -> w.tell(1, 1, 25));
     }
 
+    /** A call and the one that tells what was there ahead of it leave all as it was. */
+    private static void onlyWhatIsTold() {
+        sentence("Not promised", "Nothing is promised beyond the answers and state changes described above");
+        Asking[][] pairs = {
+            {x -> x.change(1, 0, 0, 99, 20), x -> x.change(1, 0, 1, 4, -3)},
+            {x -> x.edge(1, 1, 0, 3, 9, 1), x -> x.drop(1, 1)},
+            {x -> x.drop(1, 0), x -> x.edge(1, 0, 2, 1, 4, -3)},
+            {x -> x.drop(0, 4), x -> x.edge(0, 2, 3, 0, 4, 1)},
+            {x -> x.supply(1, 0, -99), x -> x.supply(1, 0, 3)},
+            {x -> x.supply(0, 3, 99), x -> x.supply(0, 3, 0)},
+            {x -> x.likes(0, 255), x -> x.likes(0, 3)},
+            {x -> x.likes(7, 0), x -> x.likes(7, 1)},
+            {x -> x.games(2, 1, 9), x -> x.games(1, 2, 4)},
+            {x -> x.games(0, 1, 5), x -> x.games(1, 0, 0)},
+            {x -> x.tell(1, 2, 999), x -> x.tell(1, 2, 456)},
+            {x -> x.tell(0, 0, 1), x -> x.tell(0, 0, 0)},
+            {x -> x.toolCost(7, 99), x -> x.toolCost(7, 9)},
+            {x -> x.toolCost(3, 1), x -> x.toolCost(3, 0)}};
+        for (Asking[] pair : pairs) {
+            CutsetWorks x = some();
+            due(answer(x, pair[0]) instanceof Integer, true);
+            CutsetWorks half = some();
+            answer(half, pair[0]);
+            due(everything(half).equals(everything(some())), false);
+            due(answer(x, pair[1]) instanceof Integer, true);
+            due(everything(x), everything(some()));
+        }
+        changesOnly(x -> x.net(4), 6, 9);
+        changesOnly(x -> x.edge(1, 0, 1, 1, 9, 9), 3, 6);
+        changesOnly(x -> x.drop(1, 0), 3, 6);
+        changesOnly(x -> x.drop(0, 0), 0, 3);
+        changesOnly(x -> x.supply(1, 1, 5), 4, 5);
+        changesOnly(x -> x.likes(1, 4), 12, 19);
+        changesOnly(x -> x.project(99, 1), 13, 33);
+        changesOnly(x -> x.toolCost(1, 8), 13, 20);
+        changesOnly(x -> x.team(99), 33, 61);
+        changesOnly(x -> x.games(0, 1, 9), 33, 60);
+        changesOnly(x -> x.table(4, 4), 61, 77);
+        changesOnly(x -> x.tell(1, 1, 1), 66, 67);
+    }
+
+    /** Of all answers only those from the first to ahead of the last one have changed; the last of all is net's own. */
+    private static void changesOnly(Asking call, int first, int behind) {
+        List<Object> before = everyAnswer(some());
+        CutsetWorks x = some();
+        due(answer(x, call) instanceof Integer, true);
+        List<Object> then = everyAnswer(x);
+        due(then.subList(0, first), before.subList(0, first));
+        due(then.subList(first, behind).equals(before.subList(first, behind)), false);
+        due(then.subList(behind, then.size() - 1), before.subList(behind, before.size() - 1));
+        due(then.get(then.size() - 1), first == 6 ? 3 : 2);
+    }
+
     /** An answer does not hang on which calls that only ask came ahead of it. */
     private static void inAnyOrder() {
         Asking[] calls = {CutsetWorks::isSound, x -> x.rounded(1, 1), CutsetWorks::crowdOfLeft, x -> x.cover(false),
             x -> x.pairOf(1), CutsetWorks::pairs, CutsetWorks::best, x -> x.chosen(false), x -> x.chosen(true),
             x -> x.against(1), x -> x.roundSign(0, 0, 3, 2, 1), x -> x.roundAmount(0, 0, 3, 0), x -> x.rounds(0, 3, 0),
-            x -> x.between(0, 1, 3), x -> x.parent(0, 2), x -> x.meets(1, 0), x -> x.breaks(0), x -> x.cheapest(0, 0, 3, 3),
-            x -> x.price(0, 0, 3, 1), x -> x.flow(0, 0, 3, 2), x -> x.flow(1, 0, 2, 0), x -> x.most(0, 1, 3),
-            x -> x.cut(0, 0, 3, true), x -> x.cuts(1, 0, 2), x -> x.cornerWays(0, 0, 3), x -> x.edgeWays(0, 0, 3),
+            x -> x.between(0, 1, 3), x -> x.parent(0, 2), x -> x.meets(1, 0), x -> x.breaks(0),
+            x -> x.cheapest(0, 0, 3, 3), x -> x.price(0, 0, 3, 1), x -> x.flow(0, 0, 3, 2), x -> x.flow(1, 0, 2, 0),
+            x -> x.most(0, 1, 3), x -> x.cut(0, 0, 3, true), x -> x.cuts(1, 0, 2), x -> x.cornerWays(0, 0, 3),
+            x -> x.edgeWays(0, 0, 3),
             x -> x.apart(0, 0, 3), x -> x.wider(0, 0, 3, 0), x -> x.without(0, 0, 3, 4), x -> x.inSteps(0, 0, 3, 8),
             x -> x.meanFlow(0, 0, 3), x -> x.fullShare(0, 0, 3), x -> x.isFull(0, 0, 3, 1), x -> x.crowd(1, 0, 1)};
         for (Asking call : calls) {

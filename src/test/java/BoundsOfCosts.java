@@ -40,8 +40,8 @@ final class BoundsOfCosts extends Calls {
     }
 
     private static void cheapest() {
-        sentence("Part 3", "Of the greatest flows those with the least cost are cheapest; of these the told one has the "
-                + "least row.");
+        sentence("Part 3", "Of the greatest flows those with the least cost are cheapest; of these the told one has "
+                + "the least row.");
         // alike, 1 less and 1 more
         cheapestIs(two(20, 20, 7), 0, 2, 2, 5, 7);
         cheapestIs(two(19, 20, 7), 0, 2, 5, 2, 7);
@@ -56,6 +56,11 @@ final class BoundsOfCosts extends Calls {
         cheapestIs(with(4, e(0, 1, 0, 1, 0), e(2, 3, 0, 9, 5), e(3, 2, 0, 8, -6)), 0, 1, 1, 8, 8);
         cheapestIs(with(4, e(0, 1, 0, 1, 0), e(2, 3, 0, 9, 5), e(3, 2, 0, 8, -4)), 0, 1, 1, 0, 0);
         cheapestIs(with(4, e(0, 1, 0, 1, 0), e(2, 3, 1, 9, 5), e(3, 2, 0, 8, -4)), 0, 1, 1, 1, 1);
+        // more edges lead on from such a ring, but nothing can go there
+        cheapestIs(with(5, e(0, 1, 0, 1, 0), e(2, 3, 0, 5, -1), e(3, 2, 0, 5, -1), e(3, 4, 0, 5, 0)), 0, 1,
+                1, 5, 5, 0);
+        cheapestIs(with(5, e(0, 1, 0, 1, 0), e(2, 3, 0, 5, -1), e(3, 2, 0, 5, -1), e(2, 4, 0, 5, -9)), 0, 1,
+                1, 5, 5, 0);
         // a ring through the source or the sink as well
         cheapestIs(with(2, e(0, 1, 0, 9, -3), e(1, 0, 0, 4, 2)), 1, 0, 0, 4);
         cheapestIs(with(3, e(0, 1, 0, 9, -3), e(1, 0, 0, 4, 2), e(1, 2, 0, 3, 0)), 0, 2, 7, 4, 3);
@@ -110,6 +115,12 @@ final class BoundsOfCosts extends Calls {
         asks(with(3, e(0, 1, 0, 5, 7), e(1, 2, 0, 6, 0)), NONE, x -> x.price(0, 0, 2, 1));
         throwing(20, NONE);
         refused(NONE, () -> with(8), x -> x.price(0, 0, 7, 3));
+        // edges between corners to which none leads from the source
+        for (int corner = 1; corner < 4; corner++) {
+            int c = corner;
+            refused(NONE, () -> with(4, e(2, 3, 0, 5, -4)), x -> x.price(0, 0, 1, c));
+            refused(NONE, () -> with(4, e(2, 3, 2, 5, 4), e(3, 2, 1, 5, 3)), x -> x.price(0, 0, 1, c));
+        }
         refused(NONE, () -> with(3, e(0, 1, 0, 5, 7), e(1, 2, 0, 4, 0)), x -> x.price(0, 0, 2, 2));
     }
 
@@ -140,8 +151,9 @@ final class BoundsOfCosts extends Calls {
     }
 
     private static void pricesByWhatIsLeft() {
-        sentence("Part 3", "such that, by the cheapest flow that is told, the price of an edge's end is not above that of "
-                + "its beginning and its cost, if it can get more, and not below it, if it has more than its least");
+        sentence("Part 3", "such that, by the cheapest flow that is told, the price of an edge's end is not above "
+                + "that of its beginning and its cost, if it can get more, and not below it, if it has more than "
+                + "its least");
         // one that has its least alone does not bind its beginning; one that has 1 more does
         asks(kept(1, 1, 0), 2, x -> x.price(0, 0, 3, 2));
         asks(kept(1, 1, 1), NONE, x -> x.price(0, 0, 3, 2));
@@ -162,13 +174,8 @@ final class BoundsOfCosts extends Calls {
         asks(chain, 1, w -> w.price(0, 0, 4, 2));
         asks(chain, -1, w -> w.price(0, 0, 4, 3));
         asks(chain, NONE, w -> w.price(0, 0, 4, 4));
-        CutsetWorks line = with(8, e(6, 7, 3));
-        for (int corner = 5; corner >= 0; corner--) {
-            line.edge(0, corner, corner + 1, 0, 4, 20);
-        }
-        for (int corner = 0; corner < 8; corner++) {
-            int c = corner;
-            asks(line, corner < 7 ? 20 * c : (Object) NONE, w -> w.price(0, 0, 7, c));
+        for (int source = 0; source < 8; source++) {
+            lineFrom(source);
         }
         // of two alike the told flow leaves room on the first one alone
         CutsetWorks alike = with(5, e(0, 1, 0, 2, 3), e(0, 4, 0, 2, 3), e(1, 2, 0, 2, 0), e(4, 2, 0, 2, 0),
@@ -178,6 +185,22 @@ final class BoundsOfCosts extends Calls {
         asks(alike, 3, w -> w.price(0, 0, 3, 2));
         asks(alike, 3, w -> w.price(0, 0, 3, 4));
         asks(alike, NONE, w -> w.price(0, 0, 3, 3));
+    }
+
+    /** Seven edges lead on and on, the last one first; the last one alone is full. */
+    private static void lineFrom(int source) {
+        int sink = (source + 7) % 8;
+        CutsetWorks x = with(8, e((source + 6) % 8, sink, 3));
+        for (int place = 5; place >= 0; place--) {
+            x.edge(0, (source + place) % 8, (source + place + 1) % 8, 0, 4, place - 9);
+        }
+        int sum = 0;
+        for (int place = 0; place < 7; place++) {
+            int corner = (source + place) % 8;
+            asks(x, sum, w -> w.price(0, source, sink, corner));
+            sum += place - 9;
+        }
+        asks(x, NONE, w -> w.price(0, source, sink, sink));
     }
 
     private static void greatestPrices() {

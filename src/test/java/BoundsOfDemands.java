@@ -75,8 +75,8 @@ final class BoundsOfDemands extends Calls {
     }
 
     private static void meets() {
-        sentence("Part 5", "each from its least to its most, such that from each corner goes, less what comes to it, just "
-                + "its supply; of all such rows the least one is told.");
+        sentence("Part 5", "each from its least to its most, such that from each corner goes, less what comes to "
+                + "it, just its supply; of all such rows the least one is told.");
         rowIs(wants(s(0, 0), e(0, 1, 5), e(0, 1, 5)), 0, 0);
         rowIs(wants(s(7, -7), e(0, 1, 5), e(0, 1, 5)), 2, 5);
         rowIs(wants(s(5, -5), e(0, 1, 5), e(0, 1, 5)), 0, 5);
@@ -147,9 +147,9 @@ final class BoundsOfDemands extends Calls {
         brokenBy(wants(s(1, 0, 0, 0, 0, 0, 0, 0)), 1);
         brokenBy(wants(s(0, 0, 0, 0, 0, 0, 0, 1)), 128);
 
-        sentence("Part 5", "whose supplies together are more than the mosts of the edges that lead from it less the leasts "
-                + "of those that lead into it, or less than the leasts of the edges that lead from it less the mosts of "
-                + "those that lead into it.");
+        sentence("Part 5", "whose supplies together are more than the mosts of the edges that lead from it less the "
+                + "leasts of those that lead into it, or less than the leasts of the edges that lead from it less "
+                + "the mosts of those that lead into it.");
         brokenBy(wants(s(5, -5), e(0, 1, 2, 9, 0), e(1, 0, 1, 4, 0)), NONE);
         brokenBy(wants(s(8, -8), e(0, 1, 2, 9, 0), e(1, 0, 1, 4, 0)), NONE);
         brokenBy(wants(s(9, -9), e(0, 1, 2, 9, 0), e(1, 0, 1, 4, 0)), 1);
@@ -175,9 +175,10 @@ final class BoundsOfDemands extends Calls {
     }
 
     private static void parent() {
-        sentence("Part 6", "All corners have the parent 0 at first, and 0 has none; then for each corner from 1 on: its sum "
-                + "is the least cut between it and its parent, and of the corners that are on its side in all least cuts "
-                + "between them, those with greater numbers and the same parent get it as their parent.");
+        sentence("Part 6", "All corners have the parent 0 at first, and 0 has none; then for each corner from 1 on: "
+                + "its sum is the least cut between it and its parent, and of the corners that are on its side in "
+                + "all least cuts between them, those with greater numbers and the same parent get it as their "
+                + "parent.");
         parentsAre(with(2), 0);
         parentsAre(with(8), 0, 0, 0, 0, 0, 0, 0);
         parentsAre(with(2, e(1, 0, 9)), 0);
@@ -239,8 +240,8 @@ final class BoundsOfDemands extends Calls {
         betweenIs(with(2, e(0, 1, 0)), 0, 1, 0);
         betweenIs(with(8, e(0, 7, 1)), 0, 7, 1);
         betweenIs(with(8, e(0, 7, 1)), 6, 7, 0);
-        sentence("Part 6", "The least cut between two corners has the least sum of the mosts of edges with one end in a set "
-                + "of corners that has the one and not the other.");
+        sentence("Part 6", "The least cut between two corners has the least sum of the mosts of edges with one end "
+                + "in a set of corners that has the one and not the other.");
         betweenIs(with(2, e(0, 1, 3), e(1, 0, 4)), 0, 1, 7);
         betweenIs(with(3, e(0, 1, 2, 2, 9), e(1, 2, 3), e(0, 2, 4)), 0, 1, 5);
         betweenIs(with(3, e(0, 1, 2, 2, 9), e(1, 2, 3), e(0, 2, 4)), 0, 2, 6);
@@ -268,8 +269,8 @@ final class BoundsOfDemands extends Calls {
         asks(many(16, e(0, 1, 99)), 0, x -> x.inSteps(0, 0, 1, 0));
         asks(many(16, e(0, 1, 99)), 0, x -> x.inSteps(0, 1, 0, 8));
         asks(with(8), 0, x -> x.inSteps(0, 0, 7, 8));
-        sentence("Part 7", "In each step along each edge at most its most can set out, from what is at its beginning; it is "
-                + "at its end with the next step.");
+        sentence("Part 7", "In each step along each edge at most its most can set out, from what is at its "
+                + "beginning; it is at its end with the next step.");
         for (int length = 1; length < 8; length++) {
             CutsetWorks line = with(8);
             for (int corner = 0; corner < 7; corner++) {

@@ -74,7 +74,8 @@ final class BoundsOfFlows extends Calls {
     }
 
     private static void leastRow() {
-        sentence("Part 2", "Of the flows with the greatest amount the told one has the least row of numbers, by edges.");
+        sentence("Part 2", "Of the flows with the greatest amount the told one has the least row of numbers, by "
+                + "edges.");
         int[][] dues = {{0, 0, 0}, {0, 1, 1}, {0, 4, 4}, {0, 5, 5}, {1, 5, 6}, {4, 5, 9}, {5, 5, 10}, {5, 5, 10}};
         int[] last = {0, 1, 4, 5, 6, 9, 10, 11};
         for (int index = 0; index < last.length; index++) {
@@ -154,7 +155,8 @@ final class BoundsOfFlows extends Calls {
     }
 
     private static void cut() {
-        sentence("Part 2", "The near cut has the corners that are in all least cuts, the far cut those that are in some.");
+        sentence("Part 2", "The near cut has the corners that are in all least cuts, the far cut those that are in "
+                + "some.");
         nearAndFar(line(8, 0, 1, 3), 0, 7, 1, 127, 7);
         nearAndFar(line(8, 7, -1, 3), 7, 0, 128, 254, 7);
         nearAndFar(with(2, e(0, 1, 9)), 0, 1, 1, 1, 1);
@@ -167,8 +169,8 @@ final class BoundsOfFlows extends Calls {
         nearAndFar(with(3, e(0, 1, 4), e(1, 2, 3)), 0, 2, 3, 3, 1);
         nearAndFar(with(3, e(0, 1, 98), e(1, 2, 99)), 0, 2, 1, 1, 1);
 
-        sentence("Part 2", "its sum is that of the most of all edges that lead from it, less that of the least of all "
-                + "that lead into it.");
+        sentence("Part 2", "its sum is that of the most of all edges that lead from it, less that of the least of "
+                + "all that lead into it.");
         nearAndFar(with(3, e(0, 1, 5), e(1, 2, 4), e(2, 1, 1, 9, 0)), 0, 2, 3, 3, 1);
         nearAndFar(with(3, e(0, 1, 5), e(1, 2, 4), e(2, 1, 1, 9, 0), e(1, 0, 2, 3, 0)), 0, 2, 1, 3, 2);
         nearAndFar(with(3, e(0, 1, 5), e(1, 2, 4), e(2, 1, 1, 9, 0), e(1, 0, 3, 3, 0)), 0, 2, 1, 1, 1);

@@ -394,8 +394,8 @@ final class BoundsOfNets extends Calls {
     }
 
     private static void setsAreBits() {
-        sentence("Part 1", "Sets of corners are told as bits: the sum of 2 to the power of each one's number; of sets "
-                + "that is less which has the less sum.");
+        sentence("Part 1", "Sets of corners are told as bits: the sum of 2 to the power of each one's number; of "
+                + "sets that is less which has the less sum.");
         for (int corner = 0; corner < 8; corner++) {
             int c = corner;
             int other = (corner + 3) % 8;

@@ -39,8 +39,8 @@ final class BoundsOfOthers extends Bounds {
     }
 
     private static void likes() {
-        sentence("Part 8", "There are 8 of a left and 8 of a right row, numbered from 0; each left one likes a set of right "
-                + "ones, none at first.");
+        sentence("Part 8", "There are 8 of a left and 8 of a right row, numbered from 0; each left one likes a set "
+                + "of right ones, none at first.");
         CutsetWorks x = empty();
         for (int left = 0; left < 8; left++) {
             int l = left;
@@ -115,8 +115,8 @@ final class BoundsOfOthers extends Bounds {
     }
 
     private static void pairOf() {
-        sentence("Part 8", "Of the greatest pairings the told one has the least row, of right ones by left ones, 8 standing "
-                + "for none.");
+        sentence("Part 8", "Of the greatest pairings the told one has the least row, of right ones by left ones, 8 "
+                + "standing for none.");
         rowIs(empty());
         // one that is paired is less than none, so the first ones are
         rowIs(liking(1, 1), 0);
@@ -155,8 +155,8 @@ final class BoundsOfOthers extends Bounds {
     }
 
     private static void cover() {
-        sentence("Part 8", "A cover has, of each left one and each right one that it likes, one of both; of the covers with "
-                + "the fewest, the told one has the least set of left ones.");
+        sentence("Part 8", "A cover has, of each left one and each right one that it likes, one of both; of the "
+                + "covers with the fewest, the told one has the least set of left ones.");
         coverIs(empty(), 0, 0);
         coverIs(liking(1), 0, 1);
         coverIs(liking(3), 1, 0);
@@ -176,8 +176,8 @@ final class BoundsOfOthers extends Bounds {
     }
 
     private static void crowdOfLeft() {
-        sentence("Part 8", "The crowd is the set of left ones that is more than all right ones that they like together, by "
-                + "as many as possible; of several sets the one of what is in all of them.");
+        sentence("Part 8", "The crowd is the set of left ones that is more than all right ones that they like "
+                + "together, by as many as possible; of several sets the one of what is in all of them.");
         asks(empty(), 255, CutsetWorks::crowdOfLeft);
         asks(liking(1, 2, 4, 8, 16, 32, 64, 0), 128, CutsetWorks::crowdOfLeft);
         asks(liking(1, 2, 4, 8, 16, 32, 64, 64), 192, CutsetWorks::crowdOfLeft);
@@ -254,7 +254,8 @@ final class BoundsOfOthers extends Bounds {
     }
 
     private static void games() {
-        sentence("Part 9", "and between each two some games, 0 to 9, are left, 0 at first; each game is won by one of both.");
+        sentence("Part 9", "and between each two some games, 0 to 9, are left, 0 at first; each game is won by one "
+                + "of both.");
         CutsetWorks x = league(n(0, 0, 0, 0, 0, 0));
         int many = 0;
         for (int one = 0; one < 6; one++) {
@@ -347,9 +348,9 @@ final class BoundsOfOthers extends Bounds {
     }
 
     private static void against() {
-        sentence("Part 9", "If it cannot, there is a set of other teams whose wins, and games left among themselves, "
-                + "together, are more than as many times what it has if it wins all of its games; the least such set is "
-                + "told.");
+        sentence("Part 9", "If it cannot, there is a set of other teams whose wins, and games left among "
+                + "themselves, together, are more than as many times what it has if it wins all of its games; the "
+                + "least such set is told.");
         asks(league(n(5, 6)), 2, x -> x.against(0));
         asks(league(n(6, 5)), 1, x -> x.against(1));
         asks(league(n(5, 5)), NONE, x -> x.against(0));
@@ -524,10 +525,10 @@ final class BoundsOfOthers extends Bounds {
     }
 
     private static void rounded() {
-        sentence("Part 10", "It is rounded so: each number becomes a whole one, just below or just above it, or is whole and "
-                + "stays, such that the sum of each row, that of each column, and that of all is just below or just above "
-                + "what it was, likewise, or is whole and stays; of all tables that are so the told one has the least row "
-                + "of numbers, row by row.");
+        sentence("Part 10", "It is rounded so: each number becomes a whole one, just below or just above it, or is "
+                + "whole and stays, such that the sum of each row, that of each column, and that of all is just "
+                + "below or just above what it was, likewise, or is whole and stays; of all tables that are so the "
+                + "told one has the least row of numbers, row by row.");
         tableIs(new int[][] {{0}}, n(0));
         tableIs(new int[][] {{1}}, n(0));
         tableIs(new int[][] {{9}}, n(0));
@@ -587,8 +588,8 @@ final class BoundsOfOthers extends Bounds {
     // projects
 
     private static void project() {
-        sentence("Part 11", "At most 8 projects are numbered from 0, each with a gain, 0 to 99, and a set of tools that it "
-                + "needs, of 0 to 7, each of which has a cost, 0 to 99, 0 at first.");
+        sentence("Part 11", "At most 8 projects are numbered from 0, each with a gain, 0 to 99, and a set of tools "
+                + "that it needs, of 0 to 7, each of which has a cost, 0 to 99, 0 at first.");
         CutsetWorks x = empty();
         for (int number = 0; number < 8; number++) {
             int p = number;
@@ -692,8 +693,8 @@ final class BoundsOfOthers extends Bounds {
     }
 
     private static void best() {
-        sentence("Part 11", "What is best is the greatest sum of gains of some projects, perhaps of none, less the costs of "
-                + "all tools that they need, each once.");
+        sentence("Part 11", "What is best is the greatest sum of gains of some projects, perhaps of none, less the "
+                + "costs of all tools that they need, each once.");
         bestIs(empty(), 0, 0, 0);
         bestIs(projects(n(9), n(8, 1)), 0, 0, 0);
         bestIs(projects(n(9), n(9, 1)), 0, 0, 1);
@@ -723,7 +724,8 @@ final class BoundsOfOthers extends Bounds {
     }
 
     private static void chosen() {
-        sentence("Part 11", "Of the sets of projects that are best, one is in all of them, and all of them are in one.");
+        sentence("Part 11", "Of the sets of projects that are best, one is in all of them, and all of them are in "
+                + "one.");
         bestIs(projects(n(5, 5), n(5, 1), n(5, 2)), 0, 0, 3);
         bestIs(projects(n(5, 4), n(5, 1), n(5, 2)), 1, 2, 3);
         bestIs(projects(n(5, 6), n(5, 1), n(5, 2)), 0, 0, 1);

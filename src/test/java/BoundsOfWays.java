@@ -36,6 +36,7 @@ final class BoundsOfWays extends Calls {
         waysAre(with(3, e(1, 0, 5), e(2, 1, 5)), 0, 2, 0, 0, 0);
         waysAre(with(3, e(1, 0, 5), e(2, 1, 5)), 2, 0, 1, 1, 2);
         waysAre(with(3, e(0, 1, 5), e(2, 1, 5)), 0, 2, 0, 0, 0);
+        waysAre(with(4, e(0, 1, 5), e(2, 1, 5), e(2, 3, 5)), 0, 3, 0, 0, 0);
     }
 
     /** From 0 to 7 by each of the six others. */
@@ -63,7 +64,8 @@ final class BoundsOfWays extends Calls {
         waysAre(waist(), 0, 3, 2, 2, 6);
         waysAre(waist(), 3, 6, 2, 2, 48);
         // one way must not take the edge between both
-        waysAre(with(6, e(0, 1, 1), e(1, 2, 1), e(2, 3, 1), e(0, 4, 1), e(4, 2, 1), e(1, 5, 1), e(5, 3, 1)), 0, 3, 2, 2, 6);
+        waysAre(with(6, e(0, 1, 1), e(1, 2, 1), e(2, 3, 1), e(0, 4, 1), e(4, 2, 1), e(1, 5, 1), e(5, 3, 1)), 0, 3,
+                2, 2, 6);
         // an edge twice is two edges, but leads to one corner
         waysAre(with(3, e(0, 1, 1), e(0, 1, 1), e(1, 2, 1), e(1, 2, 1)), 0, 2, 2, 1, 2);
         waysAre(with(3, e(0, 1, 1), e(0, 1, 1), e(1, 2, 9)), 0, 2, 1, 1, 2);
@@ -100,8 +102,8 @@ final class BoundsOfWays extends Calls {
                 int source = (middle + 1) % corners;
                 int sink = (middle + 2) % corners;
                 waysAre(with(corners, e(source, middle, 9), e(middle, sink, 9)), source, sink, 1, 1, 1 << middle);
-                waysAre(with(corners, e(source, middle, 9), e(source, middle, 9), e(middle, sink, 9), e(middle, sink, 9)),
-                        source, sink, 2, 1, 1 << middle);
+                waysAre(with(corners, e(source, middle, 9), e(source, middle, 9), e(middle, sink, 9),
+                        e(middle, sink, 9)), source, sink, 2, 1, 1 << middle);
                 waysAre(with(corners, e(sink, middle, 9), e(middle, source, 9)), source, sink, 0, 0, 0);
             }
         }
@@ -115,8 +117,8 @@ final class BoundsOfWays extends Calls {
         asks(with(3, e(0, 1, 1), e(1, 2, 1)), 2, x -> x.apart(0, 0, 2));
         asks(with(8, e(0, 7, 1), e(7, 1, 1)), 128, x -> x.apart(0, 0, 1));
         asks(with(8, e(1, 0, 1), e(0, 7, 1)), 1, x -> x.apart(0, 1, 7));
-        sentence("Part 4", "Apart are the fewest corners, but these two, without which there is no way; of several sets "
-                + "the least one.");
+        sentence("Part 4", "Apart are the fewest corners, but these two, without which there is no way; of several "
+                + "sets the least one.");
         // of several with one corner the least; one corner ahead of two whose set is less
         asks(with(4, e(0, 1, 1), e(1, 2, 1), e(2, 3, 1)), 2, x -> x.apart(0, 0, 3));
         asks(with(4, e(0, 2, 1), e(2, 1, 1), e(1, 3, 1)), 2, x -> x.apart(0, 0, 3));
