@@ -361,8 +361,8 @@ final class BoundsOfAll extends Calls {
             x -> x.between(0, 1, 3), x -> x.parent(0, 2), x -> x.meets(1, 0), x -> x.breaks(0),
             x -> x.cheapest(0, 0, 3, 3), x -> x.price(0, 0, 3, 1), x -> x.flow(0, 0, 3, 2), x -> x.flow(1, 0, 2, 0),
             x -> x.most(0, 1, 3), x -> x.cut(0, 0, 3, true), x -> x.cuts(1, 0, 2), x -> x.cornerWays(0, 0, 3),
-            x -> x.edgeWays(0, 0, 3),
-            x -> x.apart(0, 0, 3), x -> x.wider(0, 0, 3, 0), x -> x.without(0, 0, 3, 4), x -> x.inSteps(0, 0, 3, 8),
+            x -> x.edgeWays(0, 0, 3), x -> x.apart(0, 0, 3), x -> x.wider(0, 0, 3, 0), x -> x.without(0, 0, 3, 4),
+            x -> x.inSteps(0, 0, 3, 8),
             x -> x.meanFlow(0, 0, 3), x -> x.fullShare(0, 0, 3), x -> x.isFull(0, 0, 3, 1), x -> x.crowd(1, 0, 1)};
         for (Asking call : calls) {
             Object due = answer(some(), call);
